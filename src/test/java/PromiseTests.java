@@ -19,6 +19,7 @@ public final class PromiseTests {
         value();
         writeAnswers();
         writeLocks();
+        locksOfEveryTransaction();
         fullByChangesInEffect();
         fullByNumber();
         add();
@@ -169,6 +170,18 @@ public final class PromiseTests {
             .read(2, 0, OK);
     }
 
+    private static void locksOfEveryTransaction() {
+        for (int t = 0; t < 4; t++) {
+            for (int r = 0; r < 12; r++) {
+                int other = (t + 1 + r % 3) % 4;
+                table("promises 3, 5 and 6, transaction " + t + " against " + other).beginAll(4)
+                    .write(t, r, 6, OK).read(other, r, BUSY).write(other, r, 7, BUSY).add(other, r, 1, BUSY)
+                    .add(other, (r + 1) % 12, 1, OK).commit(t, OK).write(other, r, 8, OK).now(r, 8)
+                    .back(other, 1, OK).prepare(other, OK).begin(t).write(t, r, 9, OK).now(r, 9);
+            }
+        }
+    }
+
     private static void fullByChangesInEffect() {
         Table x = table("promise 5, ten changes in effect").begin(0);
         for (int i = 0; i < 10; i++) {
@@ -202,6 +215,13 @@ public final class PromiseTests {
             .addTimes(40, 1, 9, 1, BUSY).addTimes(10, 1, 1, 1, OK).addTimes(40, 1, 1, 1, FULL)
             .back(1, 0, OK).addTimes(10, 1, 1, 1, OK).back(1, 0, OK).addTimes(10, 1, 1, 1, OK)
             .back(1, 0, OK).add(1, 1, 1, FULL);
+        for (int oldest = 0; oldest < 4; oldest++) {
+            int other = (oldest + 1) % 4;
+            table("promise 5, the least is of transaction " + oldest).beginAll(4).add(oldest, 0, 1, OK)
+                .addTimes(10, other, 1, 1, OK).back(other, 0, OK).addTimes(10, other, 1, 1, OK)
+                .back(other, 0, OK).addTimes(10, other, 1, 1, OK).back(other, 0, OK)
+                .add(other, 1, 1, FULL).abort(oldest, OK).add(other, 1, 1, OK);
+        }
         table("promise 5, a prepared one counts over a crash, by an undone change too").beginAll(2)
             .add(0, 0, 1, OK).back(0, 0, OK).write(0, 1, 5, OK).prepare(0, OK)
             .addTimes(10, 1, 2, 1, OK).crashAndRestart(5).begin(1).addTimes(10, 1, 2, 1, OK).commit(1, OK)
