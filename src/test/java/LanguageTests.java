@@ -85,7 +85,8 @@ public final class LanguageTests {
         rule("the methods are those of the document: " + new TreeSet<>(open), open.equals(FACE));
         for (Method method : type.getDeclaredMethods()) {
             boolean hidden = Modifier.isPrivate(method.getModifiers());
-            rule(method.getName() + " is not the name of a public one", !hidden || !openNames.contains(method.getName()));
+            boolean taken = hidden && openNames.contains(method.getName());
+            rule(method.getName() + " is not the name of a public one", !taken);
         }
         Constructor<?>[] constructors = type.getDeclaredConstructors();
         rule("one public constructor", constructors.length == 1

@@ -32,18 +32,7 @@ public final class ModelTests {
                 test.step();
             }
         }
-        afterTheLastCall(checks);
         checks.close();
-    }
-
-    /** What later calls answer is free, but they still have to answer. */
-    private static void afterTheLastCall(Checks checks) {
-        ModelTests test = new ModelTests(new Checks("free"), 3);
-        while (test.calls < 10 * CALLS) {
-            test.step();
-        }
-        checks.part("after many calls on one object");
-        checks.due("calls made", test.calls >= 10 * CALLS, true);
     }
 
     private void same(String call, long got, long want) {

@@ -55,6 +55,10 @@ final class Table {
         return this;
     }
 
+    Table ending(boolean byCommit, int t, int want) {
+        return byCommit ? commit(t, want) : abort(t, want);
+    }
+
     Table prepare(int t, int want) {
         checks.due("prepare(" + t + ")", table.prepare(t), want);
         return this;
@@ -90,6 +94,15 @@ final class Table {
         return this;
     }
 
+    /** The call of that kind, with 1 as what is written or added. */
+    Table access(Access kind, int t, int r, int want) {
+        return switch (kind) {
+            case READ -> read(t, r, want);
+            case WRITE -> write(t, r, 1, want);
+            case ADD -> add(t, r, 1, want);
+        };
+    }
+
     /** Begins the transactions 0 to count - 1 of a new table. */
     Table beginAll(int count) {
         for (int t = 0; t < count; t++) {
@@ -102,6 +115,21 @@ final class Table {
     Table addTimes(int times, int t, int r, int d, int want) {
         for (int i = 0; i < times; i++) {
             add(t, r, d, want);
+        }
+        return this;
+    }
+
+    Table readTimes(int times, int t, int r) {
+        for (int i = 0; i < times; i++) {
+            read(t, r, OK);
+        }
+        return this;
+    }
+
+    /** Uses up so many numbers of changes without a trace; t has to be the lowest free number. */
+    Table spendNumbers(int count, int t) {
+        for (int i = 0; i < count; i++) {
+            begin(t).add(t, 11, 0, OK).commit(t, OK);
         }
         return this;
     }
